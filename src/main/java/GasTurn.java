@@ -540,6 +540,11 @@ public final class GasTurn {
         return (set >> bit & 1) != 0;
     }
 
+    /** Of a set that is not empty. */
+    private static int lowestIn(int set) {
+        return Integer.bitCount((set & -set) - 1);
+    }
+
     private static long choose(int n, int k) {
         if (k < 0 || k > n) return 0;
         long ways = 1;
@@ -812,14 +817,12 @@ public final class GasTurn {
 
         int spread(int start, int inside, int[] links) {
             int seen = start & inside;
-            // A round that does not end the search adds a knot, so there are no more rounds than knots.
-            for (int round = 0; round < MOST_KNOTS; round++) {
-                int wider = seen;
-                for (int k = 0; k < knots; k++) {
-                    if (hasBit(wider, k)) wider |= links[k] & inside;
-                }
-                if (wider == seen) return seen;
-                seen = wider;
+            int toDo = seen;
+            // A knot is looked at once, so there are no more rounds than knots.
+            for (int round = 0; round < MOST_KNOTS && toDo != 0; round++) {
+                int found = links[lowestIn(toDo)] & inside & ~seen;
+                toDo = toDo & (toDo - 1) | found;
+                seen |= found;
             }
             return seen;
         }
@@ -1140,9 +1143,8 @@ public final class GasTurn {
         private boolean restIsSupplied(int inside) {
             int rest = net.allKnots() & ~inside;
             int toDo = rest;
-            for (int k = 0; k < net.knots; k++) {
-                if (!hasBit(toDo, k)) continue;
-                int group = net.spread(1 << k, rest, net.near);
+            for (int groups = 0; groups < MOST_KNOTS && toDo != 0; groups++) {
+                int group = net.spread(1 << lowestIn(toDo), rest, net.near);
                 toDo &= ~group;
                 if (lackIn(group) > 0) return false;
             }
@@ -1176,7 +1178,6 @@ public final class GasTurn {
             int inside = knotsOf(some);
             int after = priceAfter(some);
             priceFrom[some] = NEVER;
-            fedIn[some] = 0;
             if (after >= NEVER || !net.canBePartedFromRest(inside) || !restIsSupplied(inside)) return;
             priceFrom[some] = after + net.pipesToRest(inside);
             fedIn[some] = net.fedWithin(inside);

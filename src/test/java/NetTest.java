@@ -16,6 +16,8 @@ public final class NetTest {
         terminal();
         gasAndArea();
         pressure();
+        pressureIsCut();
+        pressureByStates();
         steps();
         DUE.end();
     }
@@ -234,6 +236,10 @@ public final class NetTest {
         DUE.is("11: new", g.gas(1), 2);
         DUE.is("11: old", g.gas(2), 1);
         DUE.is("11: none", g.gas(4), 0);
+        g.works(4, 5, 5);
+        DUE.is("11: old here", g.gas(4), 1);
+        DUE.is("11: and there", g.gas(2), 1);
+        g.close(1);
         g.valve(1, 1);
         for (int k = 0; k < 4; k++) DUE.is("11: both", g.gas(k), 3);
         DUE.is("11: none such", g.gas(5), -1);
@@ -292,12 +298,59 @@ public final class NetTest {
         for (int far : Due.FAR) DUE.is("13: no knot", g.pressure(far), -5);
     }
 
+    private static void pressureIsCut() {
+        GasTurn g = new GasTurn();
+        g.knot();
+        g.model(0, 0, 1, 1, 0);
+        g.works(0, 1, 9);
+        g.home(0, 1, 31, 0);
+        DUE.is("13: 1 by 1 is 100", g.pressure(0), 3);
+        g.home(0, 2, 31, 0);
+        g.step(0, 33);
+        DUE.is("13: 1 by 3 is 33", g.pressure(0), 1);
+        g.step(0, 34);
+        DUE.is("13: it is not 34", g.pressure(0), 0);
+        g.close(0);
+        g.terminal(0);
+        for (int i = 0; i < 4; i++) g.home(0, 12, 31, 0);
+        g.step(3, 9803);
+        DUE.is("13: 5000 by 51 is 9803", g.pressure(0), 4);
+        g.step(3, 9804);
+        DUE.is("13: it is not 9804", g.pressure(0), 3);
+    }
+
+    private static void pressureByStates() {
+        GasTurn g = new GasTurn();
+        g.knot();
+        g.terminal(0);
+        g.sector(1);
+        g.model(0, 0, 1, 1, 0);
+        g.home(0, 10, 0, 0);
+        g.home(0, 10, 31, 0);
+        g.fitter(1, 5, 0);
+        g.change(0);
+        DUE.is("13: all are shut", g.pressure(0), 4);
+        g.works(0, 6, 9);
+        g.terminal(-1);
+        g.stock(0, 1);
+        DUE.is("9: shut homes use nothing", g.work(0, 4), 1);
+        g.later(0, 0);
+        DUE.is("13: changed ones use: 60", g.pressure(0), 1);
+        DUE.is("9: changed ones use no old gas", g.work(0, 4), 1);
+        g.home(0, 10, 31, 0);
+        DUE.is("13: and old ones: 30", g.pressure(0), 0);
+        DUE.is("9: old ones do", g.work(0, 4), 0);
+    }
+
     private static void steps() {
         GasTurn g = new GasTurn();
         DUE.is("14: as it is", g.step(0, 60), 60);
         DUE.is("14: not rising", g.step(0, 80), -2);
         DUE.is("14: not rising", g.step(1, 60), -2);
         DUE.is("14: not rising", g.step(3, 100), -2);
+        DUE.is("14: not rising", g.step(2, 150), -2);
+        DUE.is("14: rising", g.step(2, 149), 100);
+        DUE.is("14: rising", g.step(2, 100), 149);
         DUE.is("14: up to the next", g.step(0, 79), 60);
         DUE.is("14: down to the one before", g.step(3, 101), 150);
         DUE.is("14: 0", g.step(0, 0), -2);

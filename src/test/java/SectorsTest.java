@@ -113,6 +113,12 @@ public final class SectorsTest {
         DUE.is("25: no valve", g.why(0), 2);
         DUE.is("25: border ahead of fed", g.why(2), 2);
         DUE.is("25: not at its border", g.why(1), 3);
+        GasTurn first = new GasTurn();
+        Due.knots(first, 2);
+        first.pipe(0, 1, 0);
+        first.sector(1);
+        first.terminal(0);
+        DUE.is("25: pipe 0 has none", first.why(0), 2);
         GasTurn lost = chain(3);
         lost.change(0);
         DUE.is("25: may", lost.why(1), 0);
@@ -166,6 +172,18 @@ public final class SectorsTest {
         DUE.is("25: groups apart: 500 here", g.why(1), 0);
         g.home(2, 10, 31, 0);
         DUE.is("25: groups apart: 9 there", g.why(1), 4);
+        g.works(2, 1, 9);
+        DUE.is("25: groups apart: 10 there", g.why(1), 0);
+        g.home(2, 1, 31, 0);
+        DUE.is("25: homes of one knot together", g.why(1), 4);
+        g.terminal(2);
+        DUE.is("25: 500 for knots 0 and 1", g.why(2), 0);
+        GasTurn least = chain(3);
+        least.terminal(1);
+        least.home(0, 1, 31, 0);
+        DUE.is("25: knot 0 alone has none", least.why(1), 4);
+        least.works(0, 1, 1);
+        DUE.is("25: knot 0 alone has enough", least.why(1), 0);
     }
 
     private static void whyBarred() {
@@ -261,6 +279,23 @@ public final class SectorsTest {
         DUE.is("26: the works' knot ahead of the homes' leaves none", last.best(), -3);
         last.works(2, 5, 5);
         DUE.is("26: enough", last.best(), 2);
+        GasTurn bare = chain(4);
+        bare.pipe(1, 3, 0);
+        DUE.is("26: 1 and 3 can't be parted", bare.best(), -3);
+        DUE.is("27: none was told", bare.bestAt(0), -1);
+        GasTurn way = chain(3);
+        way.pipe(0, 2, 1);
+        way.home(2, 5, 31, 0);
+        way.works(1, 5, 5);
+        DUE.is("26: 2 must go ahead of 1", way.best(), 4);
+        int[] due = {0, 2, 1};
+        for (int i = 0; i < 3; i++) DUE.is("27: row", way.bestAt(i), due[i]);
+        way.lost(2);
+        DUE.is("26: the border of sector 0 has none now", way.best(), -3);
+        GasTurn both = chain(3);
+        both.pipe(2, 0, 1);
+        both.lost(2);
+        DUE.is("26: neither 0 nor 1 can be first", both.best(), -3);
     }
 
     private static void bestLeavesLawsAside() {
@@ -287,7 +322,7 @@ public final class SectorsTest {
         DUE.is("28: none", g.plan(7), -1);
         for (int far : Due.FAR) DUE.is("28: none", g.plan(far), -1);
         for (int s = 6; s >= 0; s--) DUE.is("28: plan", g.plan(s), 7 - s);
-        DUE.is("28: in it", g.plan(3), -3);
+        for (int s = 0; s < 7; s++) DUE.is("28: in it", g.plan(s), -3);
         DUE.is("28: count", g.count(8), 7);
         DUE.is("32: leaves the plan", g.change(0), 0);
         DUE.is("28: count", g.count(8), 6);

@@ -191,6 +191,7 @@ public final class SmellsTest {
             DUE.is("40: p", g.beyond(0, far), -2);
         }
         DUE.is("40: nothing is changed: it is sure", g.beyond(0, 9999), 0);
+        DUE.is("40: p 1", g.beyond(0, 1), 0);
     }
 
     private static void beyondAtItsEdge() {

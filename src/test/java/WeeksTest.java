@@ -224,6 +224,12 @@ public final class WeeksTest {
         g.week();
         int[] more = {94, 100, 95, 96};
         for (int w = 0; w < 4; w++) DUE.is("33: 21, 21, 20: coal " + w, g.work(w, 2), more[w]);
+        for (int i = 0; i < 2; i++) g.home(0, 14, 31, 0);
+        g.close(3);
+        g.home(1, 9, 31, 0);
+        g.week();
+        DUE.is("33: 99 is 50 and 49", g.work(0, 2), 89);
+        DUE.is("33: 99 is 50 and 49", g.work(2, 2), 90);
     }
 
     private static void coalByGroups() {
@@ -248,6 +254,15 @@ public final class WeeksTest {
         DUE.is("33: and gone", g.work(0, 2), 0);
         DUE.is("33: nothing left", g.work(1, 3), 0);
         DUE.is("33: runs on", g.work(2, 3), 1);
+        GasTurn three = new GasTurn();
+        Due.knots(three, 2);
+        three.model(0, 0, 1, 1, 0);
+        for (int w = 0; w < 5; w++) three.works(w % 2, 1, 50);
+        three.home(0, 20, 31, 0);
+        three.home(0, 10, 31, 0);
+        three.week();
+        int[] coal = {49, 50, 49, 50, 49};
+        for (int w = 0; w < 5; w++) DUE.is("33: each group once: coal " + w, three.work(w, 2), coal[w]);
         GasTurn mixed = new GasTurn();
         Due.knots(mixed, 2);
         mixed.pipe(0, 1, 1);
@@ -290,9 +305,11 @@ public final class WeeksTest {
         DUE.is("34: by", g.homeOf(0, 4), 0);
         DUE.is("34: week", g.homeOf(0, 5), 1);
         DUE.is("34: day", g.homeOf(0, 6), 5);
-        DUE.is("34: it is changed", g.later(0, 0), -3);
         DUE.is("34: stock", g.later(1, 0), -3);
         g.stock(0, 1);
+        DUE.is("34: it is changed", g.later(0, 0), -3);
+        g.home(0, 1, 31, 0);
+        DUE.is("34: it is old", g.later(2, 0), -3);
         DUE.is("34: just enough", g.later(1, 0), 1);
         DUE.is("34: none shut", g.count(16), 0);
     }
