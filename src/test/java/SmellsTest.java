@@ -47,6 +47,10 @@ public final class SmellsTest {
         DUE.is("36: the same minute", g.smell(0, 5), 2);
         DUE.is("36: the last minute", g.smell(0, 9999), 3);
         DUE.is("36: count", g.count(10), 4);
+        GasTurn second = chain(1);
+        second.smell(0, 5);
+        DUE.is("36: ahead of the first one", second.smell(0, 4), -2);
+        DUE.is("36: no smell", second.count(10), 1);
         DUE.is("37: home", g.smellOf(0, 0), 1);
         DUE.is("37: minute", g.smellOf(3, 1), 9999);
         DUE.is("37: nobody", g.smellOf(3, 3), -1);
