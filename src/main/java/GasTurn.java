@@ -35,6 +35,7 @@ public final class GasTurn {
     private static final int MOST_STOCK = 9999;
     private static final int LAST_WEEK = 200;
     private static final int WORK_DAYS = 5;
+    private static final int LATER_DAY = 5;
 
     private static final int OLD = 0, CHANGED = 1, SHUT = 2;
     private static final int NO_GAS = 0, OLD_GAS = 1, NEW_GAS = 2, BOTH_GASES = 3;
@@ -340,7 +341,7 @@ public final class GasTurn {
         if (h == null || !duty.hasFitter(fitter)) return NONE;
         if (h.state != SHUT || !hasBit(sectors.changedKnots(), h.knot)) return STATE;
         if (!duty.isTrained(fitter, h.model.cls) || !hasJetsFor(h.model)) return STATE;
-        fit(h, fitter, WORK_DAYS);
+        fit(h, fitter, LATER_DAY);
         return 1;
     }
 
