@@ -8,10 +8,8 @@ final class EdgeRun {
 
     /** The most that one feed() takes. */
     private static final int BYTES = 4;
-    private static final String FAR = "{MIN|-1000000|-2|-1|1000000|MAX}";
 
     final String place;
-    final List<String> sentences = new ArrayList<>();
     final List<Row> rows = new ArrayList<>();
 
     EdgeRun(String place) {
@@ -72,13 +70,12 @@ final class EdgeRun {
 
     /** A call with {a|b} in it is told once for each. */
     private static List<String> eachOf(String call) {
-        String wide = call.replace("FAR", FAR);
-        int start = wide.indexOf('{');
-        if (start < 0) return List.of(wide);
-        int end = wide.indexOf('}', start);
+        int start = call.indexOf('{');
+        if (start < 0) return List.of(call);
+        int end = call.indexOf('}', start);
         List<String> all = new ArrayList<>();
-        for (String one : wide.substring(start + 1, end).split("\\|")) {
-            all.addAll(eachOf(wide.substring(0, start) + one + wide.substring(end + 1)));
+        for (String one : call.substring(start + 1, end).split("\\|")) {
+            all.addAll(eachOf(call.substring(0, start) + one + call.substring(end + 1)));
         }
         return all;
     }

@@ -76,7 +76,6 @@ public final class EdgesTest {
                 beginnings.put(line.substring(4), run);
             } else if (line.startsWith("> ")) {
                 if (run == null) run = new EdgeRun(number + " (" + place + ")");
-                run.sentences.add(line.substring(2));
                 markTested(number, line.substring(2), place);
             } else {
                 addRow(run, line, place);

@@ -23,8 +23,9 @@ final class Twins {
         for (int i = 0; i < reads.size() && room > 0; i += room) {
             questions.add(reads.subList(i, Math.min(i + room, reads.size())));
         }
-        for (List<Call> deeds : List.of(settings(), additions(), sheets(g), weeks(g), lastWeek(), turn(g), smells(g), acts(g))) {
-            questions.add(deeds.subList(0, Math.min(deeds.size(), room)));
+        for (List<Call> some : List.of(settings(), additions(), sheets(g), weeks(g), lastWeek(), turn(g), smells(g),
+            acts(g))) {
+            questions.add(some.subList(0, Math.min(some.size(), room)));
         }
         for (List<Call> some : questions) due.add(answers(made(), some));
     }
